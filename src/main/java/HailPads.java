@@ -434,7 +434,8 @@ public final class HailPads {
             }
             workedOut = known;
             placeWidths();
-            for (int cell = 0; cell < CELLS; cell++) {
+            int cells = cellsInUse();
+            for (int cell = 0; cell < cells; cell++) {
                 raw[cell] = hands[cell] == 0 ? 0 : middleLess(cell, false);
             }
             for (int hand = 0; hand < HANDS; hand++) {
@@ -465,7 +466,8 @@ public final class HailPads {
 
         private int findLeaning(int hand) {
             int n = 0;
-            for (int cell = 0; cell < CELLS; cell++) {
+            int cells = cellsInUse();
+            for (int cell = 0; cell < cells; cell++) {
                 int width = hands[cell] < 2 ? 0 : widths[cell * HANDS + hand];
                 if (width > 0) {
                     row[n] = width - raw[cell];
@@ -502,6 +504,10 @@ public final class HailPads {
                 row[at] = moved;
             }
             return row[(n - 1) / 2];
+        }
+
+        private int cellsInUse() {
+            return Math.min(CELLS, boards.told * NUMBERS);
         }
 
         private static boolean isCell(int cell) {

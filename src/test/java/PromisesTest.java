@@ -37,6 +37,7 @@ public final class PromisesTest {
         judgedLastAndGreatest();
         judgedNotYet();
         quarrel();
+        lastOfAll();
         count();
         status();
         due.close();
@@ -183,6 +184,7 @@ public final class PromisesTest {
         HailPads pads = withBoards(1, 1, 2, 2);
         tableByTens(pads);
         pads.dent(0, 4, 5, 33, 7);
+        pads.dent(1, 0, 5, 33, 0);
         due.is("raw", pads.of(0, 4, 7, 0), 33);
         due.is("true", pads.of(0, 4, 7, 1), 33);
         due.is("size", pads.of(0, 4, 7, 2), 30);
@@ -193,7 +195,7 @@ public final class PromisesTest {
             due.is("another board", pads.of(1, 4, 7, what), -1);
             due.is("no board", pads.of(2, 4, 7, what), -1);
             due.is("hour 1001", pads.of(0, 4, 1001, what), -1);
-            due.is("number 10", pads.of(0, 10, 7, what), -1);
+            due.is("number 10 is not the next board's 0", pads.of(0, 10, 0, what), -1);
             for (int bad : FAR) {
                 due.is("board", pads.of(bad, 4, 7, what), -1);
                 due.is("number", pads.of(0, bad, 7, what), -1);
@@ -266,7 +268,13 @@ public final class PromisesTest {
         due.is("but leans", pads.of(1, 9, 3, 1), 395);
         pads.dent(0, 0, 0, 200, 3);
         due.is("lower of 1, 5, 30 and 0", pads.leaning(1, 3), 1);
-        due.is("and the other's -, 0, 0, 0", pads.leaning(0, 3), 0);
+        due.is("and the other's 91, 0, 0, 0", pads.leaning(0, 3), 0);
+        pads.dent(0, 3, 1, 1, 1);
+        pads.dent(0, 3, 0, 2, 1);
+        due.is("9, 1, 0: the middle", pads.leaning(1, 1), 1);
+        pads.dent(0, 4, 1, 1, 1);
+        pads.dent(0, 4, 2, 3, 1);
+        due.is("9, 1, 0, 0: the lower", pads.leaning(1, 1), 0);
         HailPads below = withBoards(1, 1);
         below.dent(0, 0, 0, 10, 0);
         below.dent(0, 0, 1, 20, 0);
@@ -466,6 +474,26 @@ public final class PromisesTest {
         // 10000 / 82 = 121 of 60, 99 of 10, 99 of 20: 10230 / 319 = 32.06
         due.is("a nearer one with a higher number", pads.map(20, 20, 1, 0), 32);
         due.is("its SURE", pads.map(20, 20, 1, 1), 14);
+        // they come in from far to near: 25 off, 16, 9, 4 and 1
+        HailPads falling = withBoards(5, 0, 4, 0, 3, 0, 2, 0, 1, 0);
+        tableByTens(falling);
+        for (int b = 0; b < 5; b++) {
+            falling.dent(b, 0, 0, width[b], 0);
+        }
+        // 5000 of 60, 2000 of 70, 1000 of 30
+        due.is("the last three", falling.map(0, 0, 0, 0), 58);
+        due.is("their SURE", falling.map(0, 0, 0, 1), 56);
+        // (4, 0) itself, and 1 off (5, 0) and (3, 0): 10000 of 20, 5000 of 10 and 30
+        due.is("three of the first", falling.map(4, 0, 0, 0), 20);
+        // the last one, 3 off, goes in between 2 and 9 off: 10000 / 2, 10000 / 5, 10000 / 10
+        HailPads between = withBoards(1, 0, 0, 2, 9, 0, 3, 0);
+        tableByTens(between);
+        for (int b = 0; b < 4; b++) {
+            between.dent(b, 0, 0, width[b], 0);
+        }
+        // 5000 of 10, 2000 of 20, 1000 of 70: 160000 / 8000
+        due.is("the third is farther", between.map(0, 0, 0, 0), 20);
+        due.is("its SURE", between.map(0, 0, 0, 1), 36);
         HailPads far = withBoards(0, 0);
         tableByTens(far);
         far.dent(0, 0, 0, 70, 0);
@@ -635,6 +663,9 @@ public final class PromisesTest {
         fault("loss 1 from 2 shure 3", 14);
         fault("losss 1 from 2", 0);
         fault("los 1 from 2", 0);
+        fault("lossz 1 from 2", 0);
+        fault("lossa 1 from 2", 0);
+        fault("loss 1 from 2 surez 3", 14);
         fault("radar 5", 6);
         fault("radaroff 5", 0);
         fault("radar of 5", 6);
@@ -782,6 +813,11 @@ public final class PromisesTest {
         due.is("the last radar off", pads.judged(0, 0), 50);
         Texts.rules(pads, "radar off 10; loss 50 from 0; radar off 9");
         due.is("the last radar off, below", pads.judged(0, 0), -2);
+        pads.claim(63, 63, 100, 100);
+        Texts.rules(pads, "loss 50 from 0; loss 60 from 0 sure 1");
+        due.is("without a sure, SURE 0 is enough", pads.judged(1, 0), 50);
+        Texts.rules(pads, "loss 60 from 0 sure 0");
+        due.is("sure 0", pads.judged(1, 0), 60);
     }
 
     private static void judgedNotYet() {
@@ -829,12 +865,42 @@ public final class PromisesTest {
         pads.dent(0, 9, 7, 2, 3);
         due.is("told again", pads.quarrel(0, 3), 40);
         due.is("the other board", pads.quarrel(1, 3), 0);
+        pads.dent(1, 0, 0, 1, 3);
+        pads.dent(1, 0, 1, 300, 3);
+        due.is("its own quarrel", pads.quarrel(1, 3), 299);
+        due.is("is not the first one's", pads.quarrel(0, 3), 40);
         due.is("no board", pads.quarrel(2, 3), -1);
         due.is("hour 1001", pads.quarrel(0, 1001), -1);
         for (int bad : FAR) {
             due.is("board", pads.quarrel(bad, 0), -1);
             due.is("hour", pads.quarrel(0, bad), -1);
         }
+    }
+
+    private static void lastOfAll() {
+        due.promise("edges: the last board, number, hand, place");
+        HailPads pads = new HailPads();
+        for (int b = 0; b < 30; b++) {
+            pads.board(b < 28 ? 0 : 63, b);
+        }
+        tableByTens(pads);
+        pads.dent(29, 9, 7, 70, 0);
+        pads.dent(29, 9, 6, 60, 0);
+        due.is("raw", pads.of(29, 9, 0, 0), 60);
+        due.is("leaning", pads.leaning(7, 0), 10);
+        due.is("size", pads.seen(29, 0, 0), 60);
+        due.is("many", pads.seen(29, 0, 1), 1);
+        due.is("quarrel", pads.quarrel(29, 0), 10);
+        pads.dent(28, 0, 5, 60, 0);
+        due.is("track", pads.track(60, 0, 0), 2);
+        due.is("lower", pads.through(0), 28);
+        due.is("other", pads.through(1), 29);
+        due.is("within", pads.within(29), 1);
+        due.is("not within", pads.within(0), 0);
+        due.is("radar", pads.radar(7, 7, 1), 0);
+        due.is("off", pads.off(63, 63, 0), -59);
+        due.is("radar of the first", pads.radar(0, 0, 61), 0);
+        due.is("off of the first", pads.off(0, 0, 0), 1);
     }
 
     private static void count() {
