@@ -35,6 +35,7 @@ public final class DentEdgesTest {
         clearEarliest();
         clearAndDent();
         quarrels();
+        quarrelOfOneDent();
         quarrelAsTold();
         due.close();
     }
@@ -539,6 +540,26 @@ public final class DentEdgesTest {
             due.is("number " + number, one.quarrel(1, 0), 20);
             due.is("the BOARD before it", one.quarrel(0, 0), 0);
         }
+    }
+
+    private static void quarrelOfOneDent() {
+        due.promise("21 quarrel: of one dent, whichever HANDS measured its neighbours");
+        for (int hand = 0; hand < 8; hand++) {
+            for (int other = 0; other < 8; other++) {
+                HailPads pads = withBoards(2);
+                pads.dent(0, 8, hand, 400, 0);
+                pads.dent(0, 9, other, 200, 0);
+                pads.dent(1, 0, hand, 1, 0);
+                due.is(hand + " and " + other + ", the next number", pads.quarrel(0, 0), 0);
+                due.is(hand + " and " + other + ", the next BOARD", pads.quarrel(1, 0), 0);
+                due.is(hand + " and " + other + ", RAW of the first", pads.of(0, 8, 0, 0), 400);
+                due.is(hand + " and " + other + ", RAW of the second", pads.of(0, 9, 0, 0), 200);
+            }
+        }
+        HailPads last = withBoards(30);
+        last.dent(29, 9, 7, 400, 0);
+        last.dent(29, 9, 0, 1, 0);
+        due.is("the last of all", last.quarrel(29, 0), 399);
     }
 
     private static void quarrelAsTold() {
