@@ -29,6 +29,7 @@ public final class DentEdgesTest {
         tableAlikeRows();
         tableToldAgain();
         sizeGreatest();
+        sizeByTrue();
         many();
         seenByDent();
         seenByClear();
@@ -429,6 +430,37 @@ public final class DentEdgesTest {
         due.is("but was", falling.seen(0, 1, 0), 40);
     }
 
+    private static void sizeByTrue() {
+        due.promise("II: SIZE goes by the TRUE width, in BOARDS, TRACK, MAP and CLAIMS, too");
+        HailPads pads = withBoards(3);
+        pads.table(6, 50, 20);
+        pads.table(7, 100, 40);
+        pads.dent(0, 0, 2, 100, 0);
+        pads.dent(1, 0, 1, 100, 0);
+        pads.claim(1, 1, 100, 100);
+        Texts.rules(pads, "loss 30 from 20; loss 70 from 40");
+        // from HOUR 5 on HAND 1 is known to lean by 50
+        pads.dent(2, 0, 0, 50, 5);
+        pads.dent(2, 0, 1, 100, 5);
+        int[] hours = {4, 5};
+        int[][] dues = {{0, 100, 40, 40, 2, 40, 70}, {50, 50, 20, 20, 0, 23, 30}};
+        for (int k = 0; k < 2; k++) {
+            int hour = hours[k];
+            due.is("LEANING in " + hour, pads.leaning(1, hour), dues[k][0]);
+            due.is("TRUE in " + hour, pads.of(1, 0, hour, 1), dues[k][1]);
+            due.is("RAW in " + hour, pads.of(1, 0, hour, 0), 100);
+            due.is("SIZE of the dent in " + hour, pads.of(1, 0, hour, 2), dues[k][2]);
+            due.is("SIZE of the BOARD in " + hour, pads.seen(1, hour, 0), dues[k][3]);
+            due.is("TRACK of SIZE 21 in " + hour, pads.track(21, 20, hour), dues[k][4]);
+            due.is("MAP in " + hour, pads.map(1, 1, hour, 0), dues[k][5]);
+            due.is("CLAIM in " + hour, pads.judged(0, hour), dues[k][6]);
+        }
+        due.is("TRACK of SIZE 20", pads.track(20, 20, 5), 3);
+        pads.dent(2, 0, 1, 101, 6);
+        due.is("LEANING in 6", pads.leaning(1, 6), 51);
+        due.is("just too small", pads.seen(1, 6, 0), 0);
+    }
+
     private static void many() {
         due.promise("II: MANY how many dents it has");
         HailPads pads = withBoards(2);
@@ -509,6 +541,12 @@ public final class DentEdgesTest {
         due.is("the dent is known", dentFirst.seen(0, 20, 0), 30);
         due.is("MANY", dentFirst.seen(0, 20, 1), 1);
         due.is("not before the dent", dentFirst.seen(0, 9, 2), 0);
+        due.is("the dent once more", dentFirst.seen(0, 10, 1), 1);
+        dentFirst.clear(0, 5);
+        due.is("CLEAR told behind a dent that is known later", dentFirst.seen(0, 5, 2), 1);
+        due.is("its SIZE then", dentFirst.seen(0, 9, 0), 0);
+        due.is("its SIZE with the dent", dentFirst.seen(0, 10, 0), 30);
+        due.is("not before", dentFirst.seen(0, 4, 0), -1);
     }
 
     private static void quarrels() {

@@ -1,3 +1,4 @@
+import java.lang.reflect.Array;
 import java.lang.reflect.Constructor;
 import java.lang.reflect.Field;
 import java.lang.reflect.Method;
@@ -5,7 +6,9 @@ import java.lang.reflect.Modifier;
 import java.nio.file.Files;
 import java.nio.file.Path;
 import java.util.Arrays;
+import java.util.IdentityHashMap;
 import java.util.List;
+import java.util.Map;
 import java.util.Set;
 import java.util.TreeSet;
 import java.util.regex.Matcher;
@@ -19,6 +22,9 @@ public final class FaceTest {
             "leaning 2", "seen 3", "track 3", "through 1", "within 1", "map 4", "radar 3", "off 3", "feed 5",
             "end 1", "rules 0", "fault 0", "claim 4", "judged 2", "quarrel 2", "count 1", "status 0");
 
+    private static final List<Class<?>> CONSTANTS = List.of(int.class, long.class, boolean.class, char.class,
+            String.class, int[].class, long[].class, char[].class, byte[].class);
+
     private FaceTest() {
     }
 
@@ -27,6 +33,7 @@ public final class FaceTest {
         membersAndClasses();
         words();
         lengths();
+        room();
         due.close();
     }
 
@@ -65,16 +72,22 @@ public final class FaceTest {
         for (Field f : HailPads.class.getDeclaredFields()) {
             due.isTrue(f + " is private or NONE", Modifier.isPrivate(f.getModifiers()) || f.getName().equals("NONE"));
         }
+        due.isTrue("NONE is public, static, final, an int", Arrays.stream(HailPads.class.getFields())
+                .map(Field::toString).toList().equals(List.of("public static final int HailPads.NONE")));
+        due.is("NONE", HailPads.NONE, -1);
         due.isTrue("at most twelve classes", everyClass().size() <= 12);
         for (Class<?> c : everyClass()) {
             int fields = 0;
             for (Field f : c.getDeclaredFields()) {
                 boolean isStatic = Modifier.isStatic(f.getModifiers());
                 fields += isStatic ? 0 : 1;
-                due.isTrue(f + " static only as a constant", !isStatic || Modifier.isFinal(f.getModifiers()));
+                due.isTrue(f + " static only as a constant", !isStatic || Modifier.isFinal(f.getModifiers())
+                        && CONSTANTS.contains(f.getType()));
             }
             due.isTrue(c + " has at most twenty fields", fields <= 20);
             due.isTrue(c + " is static", c == HailPads.class || Modifier.isStatic(c.getModifiers()));
+            due.isTrue(c + " is not shown", c == HailPads.class || !Modifier.isPublic(c.getModifiers())
+                    && !Modifier.isProtected(c.getModifiers()));
         }
     }
 
@@ -119,5 +132,46 @@ public final class FaceTest {
             }
         }
         due.isTrue("lines were read", at > 100);
+    }
+
+    private static void room() throws Exception {
+        due.promise("room");
+        Count made = new Count();
+        made.add(new HailPads());
+        due.isTrue(made.objects() + " objects and arrays are at most 60", made.objects() <= 60);
+        due.isTrue(made.elements + " fields and elements are at most 6,000", made.elements <= 6000);
+        for (Run run : List.of(States.some(), States.full())) {
+            Count later = new Count();
+            later.add(run.made());
+            due.is("objects after calls", later.objects(), made.objects());
+            due.is("elements after calls", later.elements, made.elements);
+        }
+    }
+
+    /** What an object holds: objects and arrays, and the fields and elements in them. */
+    private static final class Count {
+        private final Map<Object, Object> met = new IdentityHashMap<>();
+        private int elements = 0;
+
+        int objects() {
+            return met.size();
+        }
+
+        void add(Object held) throws Exception {
+            if (held == null || met.put(held, held) != null) {
+                return;
+            }
+            if (held.getClass().isArray()) {
+                elements += Array.getLength(held);
+                return;
+            }
+            for (Field f : held.getClass().getDeclaredFields()) {
+                if (!Modifier.isStatic(f.getModifiers())) {
+                    elements++;
+                    f.setAccessible(true);
+                    add(f.getType().isPrimitive() ? null : f.get(held));
+                }
+            }
+        }
     }
 }

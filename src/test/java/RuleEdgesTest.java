@@ -27,12 +27,16 @@ public final class RuleEdgesTest {
         rulesAreReplaced();
         faultOfTheLatest();
         judgedWithout();
+        judgedAtItsPlace();
+        judgedByItsRadar();
+        judgedByItsOwn();
         judgedNoMap();
         judgedRadarOff();
         judgedLastRadarOff();
         judgedGreatestLoss();
         judgedFromSize();
         judgedSure();
+        judgedAmongOthers();
         judgedSaid();
         judgedBear();
         judgedCut();
@@ -480,6 +484,78 @@ public final class RuleEdgesTest {
         due.is("CLAIM -1", pads.judged(-1, 0), -1);
     }
 
+    /** A BOARD of SIZE 100 at 40, 5 and one of SIZE 0 at 5, 40: the MAP there is 99 and 0. */
+    private static HailPads lopsided() {
+        HailPads pads = new HailPads();
+        pads.table(7, 1, 100);
+        pads.dent(pads.board(40, 5), 0, 0, 1, 0);
+        pads.clear(pads.board(5, 40), 0);
+        return pads;
+    }
+
+    private static void judgedAtItsPlace() {
+        due.promise("V, 19 claim: a place: x first, then y, and the MAP there");
+        HailPads pads = lopsided();
+        pads.claim(40, 5, 100, 100);
+        pads.claim(5, 40, 100, 100);
+        Texts.rules(pads, "loss 90 from 99; loss 10 from 0");
+        due.is("MAP at 40, 5", pads.map(40, 5, 0, 0), 99);
+        due.is("MAP at 5, 40", pads.map(5, 40, 0, 0), 0);
+        due.is("40, 5", pads.judged(0, 0), 90);
+        due.is("5, 40", pads.judged(1, 0), 10);
+        HailPads sure = new HailPads();
+        sure.clear(sure.board(40, 5), 0);
+        sure.claim(40, 5, 100, 100);
+        sure.claim(40, 15, 100, 100);
+        sure.claim(50, 5, 100, 100);
+        sure.claim(5, 40, 100, 100);
+        Texts.rules(sure, "loss 10 from 0; loss 30 from 0 sure 40; loss 60 from 0 sure 80");
+        int[] parts = {60, 30, 30, 10};
+        for (int c = 0; c < parts.length; c++) {
+            due.is("SURE at the place of CLAIM " + c, sure.judged(c, 0), parts[c]);
+        }
+    }
+
+    private static void judgedByItsRadar() {
+        due.promise("V: RADAR was told there: in the square of the CLAIM's place");
+        HailPads pads = lopsided();
+        pads.claim(40, 5, 100, 100);
+        pads.claim(5, 40, 100, 100);
+        pads.claim(40, 8, 100, 100);
+        pads.claim(47, 7, 100, 100);
+        Texts.rules(pads, "loss 10 from 0; radar off 10");
+        pads.radar(5, 0, 50);
+        int[] first = {-2, 10, 10, -2};
+        for (int c = 0; c < first.length; c++) {
+            due.is("RADAR at 5, 0, CLAIM " + c, pads.judged(c, 0), first[c]);
+        }
+        pads.radar(5, 0, -1);
+        pads.radar(0, 5, 50);
+        int[] second = {10, -2, 10, 10};
+        for (int c = 0; c < second.length; c++) {
+            due.is("RADAR at 0, 5, CLAIM " + c, pads.judged(c, 0), second[c]);
+        }
+        pads.radar(5, 0, 99);
+        pads.radar(0, 5, 0);
+        due.is("OFF by the MAP at 40, 5", pads.judged(0, 0), 10);
+        due.is("OFF by the MAP at 5, 40", pads.judged(1, 0), 10);
+    }
+
+    private static void judgedByItsOwn() {
+        due.promise("V, 19 claim: each CLAIM has its own worth and said part");
+        HailPads pads = sized(50);
+        Texts.rules(pads, "loss 80 from 0");
+        int[] worths = {100, 1000, 0, 100000, 7};
+        int[] said = {100, 10, 90, 79, 81};
+        int[] dues = {80, 100, 0, 79000, 5};
+        for (int c = 0; c < worths.length; c++) {
+            due.is("claim " + c, pads.claim(8, 8, worths[c], said[c]), c);
+        }
+        for (int c = 0; c < worths.length; c++) {
+            due.is("judged " + c, pads.judged(c, 0), dues[c]);
+        }
+    }
+
     private static void judgedNoMap() {
         due.promise("V: -2 not yet, if there is no MAP there");
         HailPads pads = new HailPads();
@@ -515,6 +591,10 @@ public final class RuleEdgesTest {
             Texts.rules(pads, "loss 40 from 0");
             due.is("RADAR " + radar + ", no radar off", pads.judged(0, 0), 40);
         }
+        HailPads fresh = sized(50);
+        fresh.claim(8, 8, 100, 100);
+        fresh.radar(1, 1, 100);
+        due.is("RADAR, no RULES ever", fresh.judged(0, 0), 0);
         due.is("100 off, radar off 100", farOff(0, 100, "radar off 100"), 0);
         due.is("100 off, radar off 99", farOff(0, 100, "radar off 99"), -2);
         due.is("100 off the other way, radar off 100", farOff(100, 0, "radar off 100"), 0);
@@ -589,6 +669,23 @@ public final class RuleEdgesTest {
         due.is("SURE 0, sure 1", far.judged(0, 0), 30);
         Texts.rules(far, "loss 30 from 50;loss 40 from 50 sure 0");
         due.is("SURE 0, sure 0", far.judged(0, 0), 40);
+    }
+
+    private static void judgedAmongOthers() {
+        due.promise("V: each loss has its own SIZE and sure, whatever RULES stand between");
+        int[] sizes = {0, 19, 20, 39, 40, 59, 60, 100};
+        int[] parts = {0, 0, 20, 20, 40, 40, 60, 60};
+        String mixed = "bear 0;loss 20 from 20 sure 100;radar off 9;bear 0;loss 60 from 60;loss 40 from 40 sure 99";
+        for (int k = 0; k < sizes.length; k++) {
+            due.is("MAP " + sizes[k], judged(sizes[k], mixed), parts[k]);
+        }
+        HailPads pads = sized(50);
+        // 5 off: SURE 80
+        pads.claim(8, 13, 100, 100);
+        Texts.rules(pads, "bear 0;radar off 9;loss 90 from 0 sure 81;bear 1;loss 50 from 0 sure 80;loss 30 from 0");
+        due.is("SURE 80", pads.judged(0, 0), 49);
+        Texts.rules(pads, "loss 30 from 0;bear 1;loss 50 from 0 sure 80;bear 0;loss 90 from 0 sure 81");
+        due.is("SURE 80, turned", pads.judged(0, 0), 50);
     }
 
     private static void judgedSaid() {

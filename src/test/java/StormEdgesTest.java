@@ -25,6 +25,8 @@ public final class StormEdgesTest {
         mapWithout();
         mapFewer();
         mapNearestThree();
+        mapNearestSeen();
+        mapAtItsPlace();
         mapWeights();
         mapFarthest();
         sureSweep();
@@ -34,6 +36,7 @@ public final class StormEdgesTest {
         radarSquares();
         radarSizes();
         offEitherWay();
+        offAtItsPlace();
         offWithout();
         due.close();
     }
@@ -93,6 +96,15 @@ public final class StormEdgesTest {
         HailPads inX = clearAt(5, 5, 5, 5, 6, 5, 6, 5);
         due.is("and two beside, in x", inX.track(0, 0, 0), 4);
         trackIs(inX, 4, 0, 2);
+        HailPads uneven = clearAt(5, 9, 5, 9);
+        due.is("two at one place, x not y", uneven.track(0, 20, 0), 0);
+        trackIs(uneven, 0, -1, -1);
+        int[][] pairs = {{3, 7, 7, 7}, {7, 3, 7, 7}, {7, 7, 3, 7}, {7, 7, 7, 3}, {3, 7, 7, 3}, {0, 0, 63, 63}};
+        for (int[] pair : pairs) {
+            HailPads two = clearAt(pair);
+            due.is("two places, " + pair[0] + ", " + pair[1], two.track(0, 0, 0), 2);
+            trackIs(two, 2, 0, 1);
+        }
     }
 
     private static void trackHit() {
@@ -332,6 +344,34 @@ public final class StormEdgesTest {
         due.is("nearer by squares", squares.map(5, 5, 0, 1), 60);
     }
 
+    private static void mapNearestSeen() {
+        due.promise("IV: the three SEEN BOARDS that lie nearest, whatever lies nearer and isn't SEEN");
+        HailPads pads = new HailPads();
+        for (int k = 0; k < 5; k++) {
+            pads.board(5, 5);
+        }
+        pads.clear(pads.board(5, 10), 0);
+        pads.clear(pads.board(10, 5), 0);
+        pads.clear(pads.board(0, 5), 0);
+        due.is("SIZE", pads.map(5, 5, 0, 0), 0);
+        due.is("SURE of three 5 off", pads.map(5, 5, 0, 1), 80);
+        pads.clear(2, 1);
+        due.is("SURE of one there and two 5 off", pads.map(5, 5, 1, 1), 100);
+        due.is("not in the HOUR before", pads.map(5, 5, 0, 1), 80);
+    }
+
+    private static void mapAtItsPlace() {
+        due.promise("12 map: at a place, x first, then y");
+        HailPads pads = sizedAt(40, 5, 100, 5, 40, 0);
+        due.is("SIZE at 40, 5", pads.map(40, 5, 0, 0), 99);
+        due.is("SIZE at 5, 40", pads.map(5, 40, 0, 0), 0);
+        HailPads one = sizedAt(40, 5, 100);
+        due.is("SURE at 40, 5", one.map(40, 5, 0, 1), 80);
+        due.is("SURE at 43, 5", one.map(43, 5, 0, 1), 68);
+        due.is("SURE at 40, 10", one.map(40, 10, 0, 1), 60);
+        due.is("SURE at 5, 40", one.map(5, 40, 0, 1), 0);
+    }
+
     private static void mapWeights() {
         due.promise("IV: WEIGHT 10,000 / (1 and that sum), cut; sums divided, cut");
         // off the place 0, 0: 10000 / 5001 = 1.9 and 10000 / 4994 = 2.0
@@ -497,6 +537,30 @@ public final class StormEdgesTest {
             none.radar(7, 7, size);
             due.is("RADAR " + size + " less 0", none.off(63, 63, 0), size);
         }
+    }
+
+    private static void offAtItsPlace() {
+        due.promise("14 off: RADAR and MAP at one place, x first, then y");
+        HailPads pads = sizedAt(40, 5, 100, 5, 40, 0);
+        pads.radar(5, 0, 50);
+        due.is("at 40, 5", pads.off(40, 5, 0), -49);
+        due.is("at 5, 40", pads.off(5, 40, 0), NOTHING);
+        pads.radar(0, 5, 60);
+        due.is("at 40, 5 as before", pads.off(40, 5, 0), -49);
+        due.is("at 5, 40 now", pads.off(5, 40, 0), 60);
+        // in the square, 2 off the BOARD in x and 1 in y: 1666 of 100 and 3 of 0
+        due.is("at 42, 6", pads.off(42, 6, 0), -49);
+        due.is("in the HOUR that is asked for", hourly().off(0, 0, 9), 50);
+        due.is("and in a later one", hourly().off(0, 0, 10), 20);
+    }
+
+    /** CLEAR from HOUR 0 on, SIZE 30 from HOUR 10 on, RADAR 50. */
+    private static HailPads hourly() {
+        HailPads pads = clearAt(0, 0);
+        pads.table(7, 1, 30);
+        pads.dent(0, 0, 0, 1, 10);
+        pads.radar(0, 0, 50);
+        return pads;
     }
 
     private static void offWithout() {
